@@ -93,6 +93,12 @@ public final class ReceivingTest {
             x.cut(n);
             Check.due("P10 bytes of BEGIN: " + n, x.receive(1), TwinVolumes.BAD);
         }
+        x.send(0, NONE, 0);
+        Check.putNumber(x, 9, 8, 253);
+        Check.putSum(x, 0, 17);
+        Check.due("P14 the lowest byte of A", x.stream(24), 255);
+        x.cut(24);
+        Check.due("P10 the last byte is not there, whatever it was", x.receive(1), TwinVolumes.BAD);
         Check.due("P10 nothing is done", Check.all(x, 1), before);
     }
 
