@@ -477,13 +477,13 @@ public final class TwinVolumes {
             return true;
         }
 
-        boolean isOld(int slot, int generation) {
+        boolean wantsNewBlock(int slot, int generation) {
             return told.at(slot) == NONE || births.at(slot) != generation;
         }
 
         /** Gives the slot's POINTER a new block, with what the old one has, unless it has one of this GENERATION. */
         void renew(int slot, int level, int generation) {
-            if (!isOld(slot, generation)) {
+            if (!wantsNewBlock(slot, generation)) {
                 return;
             }
             int b = takeLeastFree();
@@ -634,7 +634,7 @@ public final class TwinVolumes {
             int wanted = 0;
             int slot = tree;
             for (int level = TOP_LEVEL; level >= lowestLevel; level--) {
-                if (blocks.isOld(slot, generation)) {
+                if (blocks.wantsNewBlock(slot, generation)) {
                     wanted++;
                 }
                 slot = blocks.slotIn(blocks.told(slot), place);
