@@ -43,6 +43,13 @@ final class Check {
         due(what + ", thrown:", got, want.getName());
     }
 
+    /** A call that throws as due, and changes nothing. */
+    static void refused(String what, Class<? extends RuntimeException> want, Volumes x, Runnable call) {
+        String before = whole(x);
+        thrown(what, want, call);
+        due(what + ", refused: all", whole(x), before);
+    }
+
     static int wrong() {
         return wrong;
     }
@@ -55,7 +62,7 @@ final class Check {
     }
 
     /** All that a volume answers without being changed, in one text. */
-    static String all(TwinVolumes x, int volume) {
+    static String all(Volumes x, int volume) {
         StringBuilder s = new StringBuilder();
         for (int what = 0; what <= 8; what++) {
             s.append(x.look(volume, what)).append(' ');
@@ -78,7 +85,7 @@ final class Check {
     }
 
     /** The STREAM and what is told of the latest send, in one text. */
-    static String all(TwinVolumes x) {
+    static String all(Volumes x) {
         StringBuilder s = new StringBuilder();
         for (int i = 0; i < x.sent(3); i++) {
             s.append(x.stream(i)).append(' ');
@@ -89,8 +96,13 @@ final class Check {
         return s.toString();
     }
 
+    /** All that an object answers without being changed, in one text. */
+    static String whole(Volumes x) {
+        return all(x, 0) + all(x, 1) + all(x);
+    }
+
     /** The number of so many bytes that stands from a byte of the STREAM on. */
-    static long number(TwinVolumes x, int from, int size) {
+    static long number(Volumes x, int from, int size) {
         long n = 0;
         for (int i = 0; i < size; i++) {
             n = n * 256 + x.stream(from + i);
@@ -98,14 +110,14 @@ final class Check {
         return n;
     }
 
-    static void putNumber(TwinVolumes x, int from, int size, long n) {
+    static void putNumber(Volumes x, int from, int size, long n) {
         for (int i = 0; i < size; i++) {
             x.patch(from + i, (int) (n >> (8 * (size - 1 - i))));
         }
     }
 
     /** Puts the SUM behind the bytes of a RECORD that are ahead of it. */
-    static void putSum(TwinVolumes x, int from, int size) {
+    static void putSum(Volumes x, int from, int size) {
         long a = 1;
         long b = 0;
         for (int i = 0; i < size; i++) {
@@ -114,5 +126,32 @@ final class Check {
         }
         putNumber(x, from + size, 4, b);
         putNumber(x, from + size + 4, 4, a);
+    }
+
+    static void putBegin(Volumes x, long baseMark, long targetMark) {
+        x.patch(0, 1);
+        putNumber(x, 1, 8, baseMark);
+        putNumber(x, 9, 8, targetMark);
+        putSum(x, 0, 17);
+    }
+
+    static void putWrite(Volumes x, int from, int place, long v) {
+        x.patch(from, 2);
+        putNumber(x, from + 1, 2, place);
+        putNumber(x, from + 3, 8, v);
+        putSum(x, from, 11);
+    }
+
+    static void putClear(Volumes x, int from, int place, int places) {
+        x.patch(from, 3);
+        putNumber(x, from + 1, 2, place);
+        putNumber(x, from + 3, 2, places);
+        putSum(x, from, 5);
+    }
+
+    static void putEnd(Volumes x, int from, long records) {
+        x.patch(from, 4);
+        putNumber(x, from + 1, 4, records);
+        putSum(x, from, 5);
     }
 }

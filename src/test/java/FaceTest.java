@@ -37,9 +37,13 @@ public final class FaceTest {
     };
     private static final String[] CONSTANTS = {"NONE", "DONE", "BAD", "BASE", "DIRTY", "HAVE", "FULL", "BUSY", "MORE"};
     private static final String[] NEVER = {
-        "try", "catch", "finally", "synchronized", "assert", "instanceof", "->", "::", "static {", "Exact(",
-        "System.out", "currentTimeMillis", "nanoTime", "Random", "Thread", "equals(", "hashCode(", "toString(",
+        "finally", "synchronized", "assert", "volatile", "transient", "::", "static {", "Exact(", "hashCode(",
+        "System.out", "currentTimeMillis", "nanoTime", "Random", "Thread", "getMessage", "getClass", "NaN",
+        "NullPointerException", "ClassCastException", "ArrayIndexOutOfBoundsException", "NegativeArraySizeException",
+        "ArrayStoreException", "StackOverflowError", "Throwable", "catch (Exception", "catch (Error",
     };
+    private static final Set<String> LIBRARY = Set.of("java.util.ArrayList", "java.util.Arrays", "java.util.Iterator",
+            "java.util.List", "java.util.NoSuchElementException");
 
     public static void main(String[] args) throws IOException {
         constants();
@@ -106,17 +110,30 @@ public final class FaceTest {
             face.add(m.getName());
         }
         for (Class<?> c : inside) {
+            int seen = c.getModifiers() & (Modifier.PUBLIC | Modifier.PROTECTED);
+            Check.due("rule 1: " + c.getName() + " is private or package-visible", seen, 0);
             Check.due("rule 1: " + c.getName() + " is static", Modifier.isStatic(c.getModifiers()), true);
-            Check.due("rule 1: " + c.getName() + " is private", Modifier.isPrivate(c.getModifiers()), true);
             Check.due("rule 11: fields of " + c.getName(), c.getDeclaredFields().length <= 20, true);
             for (Method m : c.getDeclaredMethods()) {
-                Check.due("rule 1: " + m + " bears no name of the face", face.contains(m.getName()), false);
+                boolean hidden = Modifier.isPrivate(m.getModifiers()) && face.contains(m.getName());
+                Check.due("rule 1: private " + m + " bears no name of the face", hidden, false);
                 Check.due("rule 11: parameters of " + m, m.getParameterCount() <= 7, true);
             }
             for (Field f : c.getDeclaredFields()) {
-                Check.due("rule 5: " + f + " is no static state", Modifier.isStatic(f.getModifiers()), false);
+                Check.due("rule 5: " + f + " is no static state", isStaticState(f), false);
             }
         }
+        for (Field f : TwinVolumes.class.getDeclaredFields()) {
+            Check.due("rule 5: " + f + " is no static state", isStaticState(f), false);
+        }
+        for (Method m : TwinVolumes.class.getDeclaredMethods()) {
+            boolean hidden = Modifier.isPrivate(m.getModifiers()) && face.contains(m.getName());
+            Check.due("rule 1: private " + m + " bears no name of the face", hidden, false);
+        }
+    }
+
+    private static boolean isStaticState(Field f) {
+        return Modifier.isStatic(f.getModifiers()) && !Modifier.isFinal(f.getModifiers());
     }
 
     private static void text() throws IOException {
@@ -131,8 +148,7 @@ public final class FaceTest {
         }
         Matcher imports = Pattern.compile("import ([^;]*);").matcher(code);
         while (imports.find()) {
-            boolean allowed = Set.of("java.util.Arrays", "java.util.NoSuchElementException").contains(imports.group(1));
-            Check.due("rule 4: " + imports.group(1), allowed, true);
+            Check.due("rule 4: " + imports.group(1), LIBRARY.contains(imports.group(1)), true);
         }
         Matcher methods = Pattern.compile("(?ms)^( +)[^ \n}][^\n;=]*\\)[^;=\n]*\\{\n(.*?)^\\1\\}").matcher(code);
         while (methods.find()) {

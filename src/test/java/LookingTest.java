@@ -9,12 +9,11 @@ public final class LookingTest {
         pointer();
         data();
         look();
-        nothingIsChanged();
         Check.end("LookingTest");
     }
 
-    private static TwinVolumes used() {
-        TwinVolumes x = new TwinVolumes();
+    private static Volumes used() {
+        Volumes x = new Volumes();
         x.snapshot(0);
         x.write(0, 0, -7);
         x.write(0, 8, 5);
@@ -25,7 +24,7 @@ public final class LookingTest {
     }
 
     private static void snap() {
-        TwinVolumes x = used();
+        Volumes x = used();
         x.clear(0, 0);
         x.clear(0, 8);
         x.snapshot(1);
@@ -61,7 +60,7 @@ public final class LookingTest {
     }
 
     private static void block() {
-        TwinVolumes x = used();
+        Volumes x = used();
         int[][] due = {
             {3, 2, 1}, {2, 2, 1}, {1, 2, 1}, {0, 2, 1}, {1, 2, 2}, {0, 2, 1},
             {3, 3, 2}, {2, 3, 1}, {1, 3, 1}, {0, 3, 1}, {NONE, NONE, 0}, {NONE, NONE, 0}
@@ -103,7 +102,7 @@ public final class LookingTest {
     }
 
     private static void pointer() {
-        TwinVolumes x = used();
+        Volumes x = used();
         Check.due("P18 of level 3", x.pointer(0, 6, 0, 0), 7);
         Check.due("P18 its BIRTH", x.pointer(0, 6, 0, 1), 3);
         Check.due("P18 of level 2", x.pointer(0, 7, 1, 0), 4);
@@ -135,7 +134,7 @@ public final class LookingTest {
     }
 
     private static void data() {
-        TwinVolumes x = used();
+        Volumes x = used();
         Check.due("P19 a DATA block", x.data(0, 3), -7);
         Check.due("P19 another", x.data(0, 9), 6);
         Check.due("P19 an INNER block", x.data(0, 8), 0);
@@ -164,7 +163,7 @@ public final class LookingTest {
     }
 
     private static void look() {
-        TwinVolumes x = used();
+        Volumes x = used();
         int[] due = {100, 90, 4, 3, 0, 6, 3, NONE, 0};
         for (int what = 0; what < due.length; what++) {
             Check.due("P20 look(0, " + what + ")", x.look(0, what), due[what]);
@@ -194,20 +193,5 @@ public final class LookingTest {
         x.step(1, 9);
         Check.due("P20 three with END", x.look(1, 8), 3);
         Check.due("P20 volume 0 received none", x.look(0, 8), 0);
-    }
-
-    private static void nothingIsChanged() {
-        TwinVolumes x = used();
-        x.send(0, 0, 2);
-        String before = Check.all(x, 0) + Check.all(x, 1) + Check.all(x);
-        x.read(0, 0, 0);
-        x.snap(0, 0, 0);
-        x.block(0, 0, 0);
-        x.pointer(0, 0, 0, 0);
-        x.data(0, 0);
-        x.look(0, 0);
-        x.sent(0);
-        x.stream(0);
-        Check.due("P16 to P21 nothing is changed", Check.all(x, 0) + Check.all(x, 1) + Check.all(x), before);
     }
 }

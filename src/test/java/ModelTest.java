@@ -8,17 +8,17 @@ import java.util.Random;
 
 /** Runs of calls made up from fixed seeds: each call of TwinVolumes answers as the Model does, and leaves the same. */
 public final class ModelTest {
-    private static final int RUNS = 1500;
-    private static final int CALLS = 512;
+    private static final int RUNS = 900;
+    private static final int MOST_CALLS = 400;
     private static final int[] WHATS = {-1, 0, 1, 2, 3, 4, 5, 6, 7, 8, 9};
     private static final int[] ODD = {-1, -2, 512, 601, Integer.MAX_VALUE, Integer.MIN_VALUE, 20, 2, 8, 0, 1, 3};
 
-    private static final Map<String, Method> OWN = methods(TwinVolumes.class);
+    private static final Map<String, Method> OWN = methods(Volumes.class);
     private static final Map<String, Method> MODEL = methods(Model.class);
     private static final Map<String, Integer> ANSWERS = new HashMap<>();
 
     private final Random random;
-    private final TwinVolumes own = new TwinVolumes();
+    private final Volumes own = new Volumes();
     private final Model model = new Model();
     private final List<String> told = new ArrayList<>();
     private final int places;
@@ -64,9 +64,9 @@ public final class ModelTest {
             call("format", 0, 600);
             call("format", 1, 600);
         }
-        for (int i = 0; i < CALLS && same && calls < CALLS; i++) {
+        for (int i = 0; i < MOST_CALLS && mayCall(); i++) {
             act();
-            if (same && (i % 16 == 0 || seed % 16 == 1)) {
+            if (same && (i % 32 == 0 || seed % 64 == 1)) {
                 lookAtAll();
             }
         }
@@ -77,6 +77,10 @@ public final class ModelTest {
             System.out.println("seed " + seed + ":");
             told.forEach(System.out::println);
         }
+    }
+
+    private boolean mayCall() {
+        return same && calls < MOST_CALLS;
     }
 
     private int pick(int below) {
@@ -145,7 +149,7 @@ public final class ModelTest {
             }
         }
         if (base == -1 && latest >= 0 && random.nextInt(3) > 0) {
-            while (own.look(to, 3) > 0 && same && own.look(to, 4) == 0) {
+            while (mayCall() && own.look(to, 3) > 0 && own.look(to, 4) == 0) {
                 call("destroy", to, 0);
             }
             call("format", to, 4 + random.nextInt(60));
@@ -220,7 +224,7 @@ public final class ModelTest {
     }
 
     private void call(String name, Object... args) {
-        if (!same) {
+        if (!mayCall()) {
             return;
         }
         calls++;

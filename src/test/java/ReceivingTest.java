@@ -25,8 +25,8 @@ public final class ReceivingTest {
     }
 
     /** Volume 0 has PLACES 1, 2 and 300 in SNAPSHOT 0; in 1, PLACE 2 has another long, and 300 is cleared. */
-    private static TwinVolumes twoSnapshots() {
-        TwinVolumes x = new TwinVolumes();
+    private static Volumes twoSnapshots() {
+        Volumes x = new Volumes();
         x.write(0, 1, 11);
         x.write(0, 2, 12);
         x.write(0, 300, 13);
@@ -38,13 +38,13 @@ public final class ReceivingTest {
         return x;
     }
 
-    private static void take(TwinVolumes x, int volume) {
+    private static void take(Volumes x, int volume) {
         Check.due("receive", x.receive(volume), TwinVolumes.DONE);
         Check.due("step", x.step(volume, MAX), TwinVolumes.DONE);
     }
 
     private static void receive() {
-        TwinVolumes x = twoSnapshots();
+        Volumes x = twoSnapshots();
         x.write(1, 5, 5);
         x.clear(1, 5);
         String stream = Check.all(x);
@@ -69,7 +69,7 @@ public final class ReceivingTest {
     }
 
     private static void receiveBadBegin() {
-        TwinVolumes x = twoSnapshots();
+        Volumes x = twoSnapshots();
         String before = Check.all(x, 1);
         for (int i = 0; i < BEGIN; i++) {
             int was = x.patch(i, x.stream(i) + 1);
@@ -77,10 +77,10 @@ public final class ReceivingTest {
             x.patch(i, was);
         }
         for (int kind = 0; kind < 256; kind++) {
-            x.patch(0, kind);
-            Check.putSum(x, 0, 17);
-            Check.due("P10 first byte " + kind, x.receive(1), kind == 1 ? TwinVolumes.DONE : TwinVolumes.BAD);
-            x.crash(1);
+            Volumes y = twoSnapshots();
+            y.patch(0, kind);
+            Check.putSum(y, 0, 17);
+            Check.due("P10 first byte " + kind, y.receive(1), kind == 1 ? TwinVolumes.DONE : TwinVolumes.BAD);
         }
         x.patch(0, 2);
         Check.putSum(x, 0, 11);
@@ -103,7 +103,7 @@ public final class ReceivingTest {
     }
 
     private static void receiveBase() {
-        TwinVolumes x = twoSnapshots();
+        Volumes x = twoSnapshots();
         x.send(0, 0, 1);
         Check.due("P10 a base, but no SNAPSHOT", x.receive(1), TwinVolumes.BASE);
         x.send(0, NONE, 0);
@@ -125,7 +125,7 @@ public final class ReceivingTest {
     }
 
     private static void receiveDirty() {
-        TwinVolumes x = twoSnapshots();
+        Volumes x = twoSnapshots();
         x.write(1, 9, 9);
         Check.due("P10 no SNAPSHOT, and no HOLE", x.receive(1), TwinVolumes.DIRTY);
         x.clear(1, 9);
@@ -137,7 +137,7 @@ public final class ReceivingTest {
         take(x, 1);
         Check.due("P11 received", x.read(1, 1, 2), 22);
 
-        x = new TwinVolumes();
+        x = new Volumes();
         x.snapshot(0);
         x.write(0, 1, 1);
         x.snapshot(0);
@@ -157,7 +157,7 @@ public final class ReceivingTest {
     }
 
     private static void receiveHave() {
-        TwinVolumes x = twoSnapshots();
+        Volumes x = twoSnapshots();
         take(x, 1);
         x.send(0, 0, 1);
         take(x, 1);
@@ -178,7 +178,7 @@ public final class ReceivingTest {
     }
 
     private static void receiveThrows() {
-        TwinVolumes x = twoSnapshots();
+        Volumes x = twoSnapshots();
         int[] wrong = {-1, 2, MAX, MIN};
         for (int volume : wrong) {
             Check.thrown("P10 volume " + volume, Check.ARGUMENT, () -> x.receive(volume));
@@ -200,7 +200,7 @@ public final class ReceivingTest {
     }
 
     private static void step() {
-        TwinVolumes x = twoSnapshots();
+        Volumes x = twoSnapshots();
         x.receive(1);
         Check.due("P11 one", x.step(1, 1), TwinVolumes.MORE);
         Check.due("P11 one received", x.look(1, 8), 1);
@@ -234,7 +234,7 @@ public final class ReceivingTest {
     }
 
     /** Receives a changed STREAM in volume 1, which was as told before. */
-    private static void ended(String when, TwinVolumes x, int status, int received) {
+    private static void ended(String when, Volumes x, int status, int received) {
         String blocks = Check.all(x, 1);
         Check.due(when + ": receive", x.receive(1), TwinVolumes.DONE);
         Check.due(when + ": step", x.step(1, MAX), status);
@@ -254,7 +254,7 @@ public final class ReceivingTest {
     }
 
     private static void stepBad() {
-        TwinVolumes x = twoSnapshots();
+        Volumes x = twoSnapshots();
         for (int i = BEGIN; i < x.sent(3); i++) {
             x = twoSnapshots();
             x.patch(i, x.stream(i) ^ 64);
@@ -292,7 +292,7 @@ public final class ReceivingTest {
     }
 
     private static void changedWrite(int place, int status, int received) {
-        TwinVolumes x = twoSnapshots();
+        Volumes x = twoSnapshots();
         Check.putNumber(x, BEGIN + 19 + 1, 2, place);
         Check.putSum(x, BEGIN + 19, 11);
         if (status == TwinVolumes.BAD) {
@@ -306,7 +306,7 @@ public final class ReceivingTest {
     }
 
     private static void changedClear(int place, int places, int status) {
-        TwinVolumes x = twoSnapshots();
+        Volumes x = twoSnapshots();
         take(x, 1);
         x.send(0, 0, 1);
         int clear = BEGIN + 19;
@@ -332,12 +332,12 @@ public final class ReceivingTest {
         int end = BEGIN + 3 * 19;
         long[] numbers = {0, 3, 5, 4 + (1 << 8), 4 + (1 << 16), 4 + (1 << 24), -1, 4L - (1L << 31)};
         for (long n : numbers) {
-            TwinVolumes x = twoSnapshots();
+            Volumes x = twoSnapshots();
             Check.putNumber(x, end + 1, 4, n);
             Check.putSum(x, end, 5);
             ended("P11 END tells " + n, x, TwinVolumes.BAD, 3);
         }
-        TwinVolumes x = twoSnapshots();
+        Volumes x = twoSnapshots();
         Check.due("P9 END tells BEGIN, too", Check.number(x, end + 1, 4), 4);
         x.patch(BEGIN, 4);
         Check.putNumber(x, BEGIN + 1, 4, 1);
@@ -361,7 +361,7 @@ public final class ReceivingTest {
     }
 
     private static void stepFull() {
-        TwinVolumes x = twoSnapshots();
+        Volumes x = twoSnapshots();
         x.format(1, 5);
         x.receive(1);
         Check.due("P11 two fit", x.step(1, 2), TwinVolumes.MORE);
@@ -373,7 +373,7 @@ public final class ReceivingTest {
         Check.thrown("P11 it is over", Check.STATE, () -> x.step(1, 1));
         ended("P11 FULL", x, TwinVolumes.FULL, 2);
 
-        TwinVolumes y = twoSnapshots();
+        Volumes y = twoSnapshots();
         y.send(0, NONE, 0);
         y.format(1, 8);
         take(y, 1);
@@ -385,7 +385,7 @@ public final class ReceivingTest {
         Check.due("P11 none FREE for a CLEAR", y.look(1, 1), 0);
         ended("P11 a CLEAR that is FULL", y, TwinVolumes.FULL, 0);
 
-        TwinVolumes z = twoSnapshots();
+        Volumes z = twoSnapshots();
         z.format(1, 8);
         take(z, 1);
         z.send(0, 0, 1);
@@ -395,7 +395,7 @@ public final class ReceivingTest {
     }
 
     private static void stepFullOfSnapshots() {
-        TwinVolumes x = new TwinVolumes();
+        Volumes x = new Volumes();
         x.write(0, 1, 1);
         x.snapshot(0);
         x.write(0, 1, 2);
@@ -410,7 +410,7 @@ public final class ReceivingTest {
         Check.putSum(x, 0, 17);
         ended("P11 an END when there are 20", x, TwinVolumes.FULL, 1);
 
-        TwinVolumes y = twoSnapshots();
+        Volumes y = twoSnapshots();
         for (int k = 0; k < 20; k++) {
             y.snapshot(1);
         }
@@ -420,7 +420,7 @@ public final class ReceivingTest {
         y.patch(y.sent(3) - 1, 0);
         ended("P11 a BAD END ahead of FULL", y, TwinVolumes.BAD, 2);
 
-        TwinVolumes z = twoSnapshots();
+        Volumes z = twoSnapshots();
         for (int k = 0; k < 19; k++) {
             z.snapshot(1);
         }
@@ -435,7 +435,7 @@ public final class ReceivingTest {
     private static void blocksAreFreeAfterEachRecord() {
         Check.due("P11 ten new blocks wanted, nine FREE", clearOf64(9), TwinVolumes.FULL);
         Check.due("P11 ten new blocks wanted, ten FREE", clearOf64(10), TwinVolumes.DONE);
-        TwinVolumes x = new TwinVolumes();
+        Volumes x = new Volumes();
         x.write(0, 0, 1);
         x.snapshot(0);
         x.send(0, NONE, 0);
@@ -457,7 +457,7 @@ public final class ReceivingTest {
 
     /** Receives a CLEAR of 64 PLACES with eight DATA blocks, each in its own block of level 1: 18 blocks in all. */
     private static int clearOf64(int free) {
-        TwinVolumes x = new TwinVolumes();
+        Volumes x = new Volumes();
         for (int i = 0; i < 8; i++) {
             x.write(0, 8 * i, i);
         }
@@ -484,7 +484,7 @@ public final class ReceivingTest {
     }
 
     private static void streamOfNow() {
-        TwinVolumes x = twoSnapshots();
+        Volumes x = twoSnapshots();
         x.receive(1);
         x.step(1, 1);
         x.patch(BEGIN + 19 + 10, 99);
@@ -508,7 +508,7 @@ public final class ReceivingTest {
     }
 
     private static void crash() {
-        TwinVolumes x = twoSnapshots();
+        Volumes x = twoSnapshots();
         take(x, 1);
         x.send(0, 0, 1);
         String before = Check.all(x, 1);
@@ -527,7 +527,7 @@ public final class ReceivingTest {
     }
 
     private static void bothAtOnce() {
-        TwinVolumes x = twoSnapshots();
+        Volumes x = twoSnapshots();
         x.format(0, 50);
         x.receive(0);
         x.step(0, 1);

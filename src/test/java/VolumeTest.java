@@ -23,14 +23,14 @@ public final class VolumeTest {
         Check.end("VolumeTest");
     }
 
-    private static void looks(String when, TwinVolumes x, int volume, int... due) {
+    private static void looks(String when, Volumes x, int volume, int... due) {
         for (int what = 0; what < due.length; what++) {
             Check.due(when + ": look(" + volume + ", " + what + ")", x.look(volume, what), due[what]);
         }
     }
 
     private static void newObject() {
-        TwinVolumes x = new TwinVolumes();
+        Volumes x = new Volumes();
         for (int volume = 0; volume < 2; volume++) {
             looks("P1 new", x, volume, 100, 100, 1, 0, 0, NONE, 0, NONE, 0);
             Check.due("P1 read", x.read(volume, NONE, 0), 0);
@@ -41,13 +41,13 @@ public final class VolumeTest {
             Check.due("P1 sent " + what, x.sent(what), 0);
         }
         Check.due("P1 next MARK", x.sent(4), 1);
-        TwinVolumes y = new TwinVolumes();
+        Volumes y = new Volumes();
         y.write(0, 0, 5);
         Check.due("P1 objects have nothing in common", x.read(0, NONE, 0), 0);
     }
 
     private static void format() {
-        TwinVolumes x = new TwinVolumes();
+        Volumes x = new Volumes();
         x.write(0, 3, 7);
         x.write(1, 4, 8);
         x.snapshot(0);
@@ -86,7 +86,7 @@ public final class VolumeTest {
     }
 
     private static void formatEndsReceiving() {
-        TwinVolumes x = new TwinVolumes();
+        Volumes x = new Volumes();
         x.write(0, 3, 7);
         x.snapshot(0);
         x.send(0, NONE, 0);
@@ -99,7 +99,7 @@ public final class VolumeTest {
     }
 
     private static void write() {
-        TwinVolumes x = new TwinVolumes();
+        Volumes x = new Volumes();
         Check.due("P3 DONE", x.write(0, 5, Long.MIN_VALUE), TwinVolumes.DONE);
         Check.due("P3 read", x.read(0, NONE, 5), Long.MIN_VALUE);
         looks("P3 four blocks", x, 0, 100, 96, 1, 0, 0, 0, 1, NONE, 0);
@@ -137,7 +137,7 @@ public final class VolumeTest {
     }
 
     private static void writeCopies() {
-        TwinVolumes x = new TwinVolumes();
+        Volumes x = new Volumes();
         x.write(0, 0, 1);
         x.write(0, 1, 2);
         x.snapshot(0);
@@ -165,7 +165,7 @@ public final class VolumeTest {
     }
 
     private static void writeBelowHolesKeepsTheirBirth() {
-        TwinVolumes x = new TwinVolumes();
+        Volumes x = new Volumes();
         x.write(0, 0, 1);
         x.write(0, 64, 1);
         x.snapshot(0);
@@ -188,7 +188,7 @@ public final class VolumeTest {
     }
 
     private static void writeFull() {
-        TwinVolumes x = new TwinVolumes();
+        Volumes x = new Volumes();
         x.format(0, 7);
         Check.due("P3 four of 7", x.write(0, 0, 1), TwinVolumes.DONE);
         x.write(0, 1, 1);
@@ -206,7 +206,7 @@ public final class VolumeTest {
     }
 
     private static void clear() {
-        TwinVolumes x = new TwinVolumes();
+        Volumes x = new Volumes();
         String before = Check.all(x, 0);
         Check.due("P4 HOLE", x.clear(0, 5), TwinVolumes.DONE);
         Check.due("P4 nothing is done", Check.all(x, 0), before);
@@ -243,7 +243,7 @@ public final class VolumeTest {
     }
 
     private static void clearCopies() {
-        TwinVolumes x = new TwinVolumes();
+        Volumes x = new Volumes();
         x.write(0, 0, 1);
         x.write(0, 1, 2);
         x.snapshot(0);
@@ -263,7 +263,7 @@ public final class VolumeTest {
     }
 
     private static void clearFull() {
-        TwinVolumes x = new TwinVolumes();
+        Volumes x = new Volumes();
         x.format(0, 7);
         x.write(0, 0, 1);
         x.write(0, 1, 1);
@@ -284,7 +284,7 @@ public final class VolumeTest {
     }
 
     private static void read() {
-        TwinVolumes x = new TwinVolumes();
+        Volumes x = new Volumes();
         x.write(0, 511, -5);
         x.snapshot(0);
         x.write(0, 511, 6);
@@ -307,7 +307,7 @@ public final class VolumeTest {
     }
 
     private static void snapshot() {
-        TwinVolumes x = new TwinVolumes();
+        Volumes x = new Volumes();
         Check.due("P6 of a HOLE", x.snapshot(0), 0);
         Check.due("P6 MARK", x.snap(0, 0, 0), 1);
         Check.due("P6 GENERATION", x.snap(0, 0, 1), 1);
@@ -336,7 +336,7 @@ public final class VolumeTest {
     }
 
     private static void destroy() {
-        TwinVolumes x = new TwinVolumes();
+        Volumes x = new Volumes();
         for (int k = 0; k < 4; k++) {
             x.write(0, 7, 10 + k);
             x.snapshot(0);
@@ -368,7 +368,7 @@ public final class VolumeTest {
     }
 
     private static void rollback() {
-        TwinVolumes x = new TwinVolumes();
+        Volumes x = new Volumes();
         x.write(0, 7, 1);
         Check.thrown("P8 no SNAPSHOT", Check.MISSING, () -> x.rollback(0));
         x.snapshot(0);
@@ -396,7 +396,7 @@ public final class VolumeTest {
     }
 
     private static void busy() {
-        TwinVolumes x = new TwinVolumes();
+        Volumes x = new Volumes();
         x.format(1, 4);
         x.write(0, 7, 1);
         x.snapshot(0);
