@@ -706,6 +706,9 @@ public final class TermsStreamTest {
                 x.crash(1);
                 x.patch(x.sent(3) - 1, 0);
                 endsIt("a BAD END with 20", x, BAD);
+                x.crash(1);
+                Check.putEnd(x, x.sent(3) - END, 4);
+                endsIt("an END of another number with 20", x, BAD);
             } else {
                 x.receive(1);
                 Check.due("the 20th", x.step(1, 2), DONE);

@@ -7,6 +7,8 @@ public final class TermsVolumeTest {
     public static void main(String[] args) {
         callsUpToThe512th();
         volumesHaveBlocksFromZeroOn();
+        lastOfSixHundredAsInner();
+        blockZeroAsData();
         levelsAndPointers();
         treeIsABlockOfLevelThreeOrAHole();
         places();
@@ -74,6 +76,32 @@ public final class TermsVolumeTest {
         }
     }
 
+    /** The last of 600 BLOCKS has its own eight POINTERS, apart from those of the TREES. */
+    private static void lastOfSixHundredAsInner() {
+        Volumes x = new Volumes();
+        x.format(0, 600);
+        // 458 DATA blocks, 58 of level 1, 8 of level 2 and one of level 3; then four for each SNAPSHOT but the last.
+        for (int p = 0; p < 458; p++) {
+            x.write(0, p, p + 1);
+        }
+        for (int k = 0; k < 18; k++) {
+            x.snapshot(0);
+            x.write(0, 0, k);
+        }
+        x.snapshot(0);
+        Check.due("clear takes the last three", x.clear(0, 6), DONE);
+        Check.due("none FREE", x.look(0, 1), 0);
+        Check.due("the last one is of level 1", x.block(0, 599, 0), 1);
+        for (int i = 0; i < 8; i++) {
+            int b = x.pointer(0, 599, i, 0);
+            Check.due("its POINTER " + i, i == 6 ? b == NONE : x.block(0, b, 0) == 0, true);
+        }
+        Check.due("PLACE 7", x.data(0, x.pointer(0, 599, 7, 0)), 8);
+        Check.due("no HIDDEN TREE", x.look(0, 7), NONE);
+        Check.due("LIVE", x.look(0, 5), 597);
+        Check.due("SNAPSHOT 0", x.read(0, 0, 6), 7);
+    }
+
     /** "DATA (level 0), which has one long, or INNER (level 1 to 3), which has 8 POINTERS, 0 to 7." */
     private static void levelsAndPointers() {
         Volumes x = volume(8, 511);
@@ -87,6 +115,26 @@ public final class TermsVolumeTest {
             Check.due("long of " + b, x.data(0, b), inner ? 0 : 512);
         }
         Check.due("level of a FREE block", x.block(0, 4, 0), NONE);
+    }
+
+    /** Block 0 is a block like each other one: it is DATA when it comes so. */
+    private static void blockZeroAsData() {
+        Volumes x = volume(9, 0);
+        x.snapshot(0);
+        x.write(0, 0, 2);
+        x.destroy(0, 0);
+        Check.due("write", x.write(0, 1, 33), DONE);
+        Check.due("level of block 0", x.block(0, 0, 0), 0);
+        Check.due("data of block 0", x.data(0, 0), 33);
+        Check.due("read", x.read(0, NONE, 1), 33);
+        Check.due("POINTERS that tell it", x.block(0, 0, 2), 1);
+        x.snapshot(0);
+        x.send(0, NONE, 0);
+        Check.due("it is sent", x.sent(0), 2);
+        Check.due("its long", Check.number(x, 25 + 19 + 3, 8), 33);
+        Check.due("clear", x.clear(0, 1), DONE);
+        Check.due("cleared", x.read(0, NONE, 1), 0);
+        Check.due("the SNAPSHOT has it", x.read(0, 0, 1), 33);
     }
 
     /** "A TREE is a POINTER to a block of level 3, or a HOLE." */
